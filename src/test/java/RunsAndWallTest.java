@@ -176,6 +176,7 @@ public final class RunsAndWallTest {
         for (int c = 0; c < 6; c++) {
             x.set(5, 1, c + 24);
             d.due("7 stud at column " + c, x.passes(5, 0), 1 << c | 1 << (c + 3) % 6);
+            d.due("7 stud up to the top", x.passes(5, 5), 1 << c | 1 << (c + 3) % 6);
         }
         x.set(4, 1, 30);
         d.due("7 bend at the top", x.passes(4, 5), 63);
@@ -325,6 +326,7 @@ public final class RunsAndWallTest {
         d.due("13 slips", x.house(4), 0);
         d.due("13 no step", x.count(1), 0);
         slips();
+        slipsJustBelow();
         cutOdds();
     }
 
@@ -333,6 +335,7 @@ public final class RunsAndWallTest {
             BehindWall x = new BehindWall();
             x.run(0, 0, 7, 1);
             x.run(0, 1, 9, 1);
+            x.seed(seed * 1000003);
             x.build();
             int tells = x.drill(0, 1);
             x.rule(0, 49);
@@ -344,6 +347,24 @@ public final class RunsAndWallTest {
             d.due("13 odds", x.told(0, 4), told == 1 ? 7000 * 51 / 100 : 7000 * 49 / 100);
             d.due("13 odds", x.told(1, 4), told == 0 ? 9000 * 51 / 100 : 9000 * 49 / 100);
             d.due("13 a hole does not slip", x.probe(3, 0), tells);
+        }
+    }
+
+    /** A draw whose rest is just SLIP doesn't slip, one more than it does. */
+    private void slipsJustBelow() {
+        for (int seed = 0; seed < 200; seed++) {
+            int rest = (next(seed) >>> 8) % 100;
+            if (rest > 48) {
+                continue;
+            }
+            for (int slip = rest; slip < rest + 2; slip++) {
+                BehindWall x = new BehindWall();
+                x.run(0, 0, 1, 1);
+                x.build();
+                x.rule(0, slip);
+                x.seed(seed);
+                d.due("13 rest " + rest + " slip " + slip, x.probe(1, 0), slip == rest ? 1 : 0);
+            }
         }
     }
 
@@ -503,6 +524,13 @@ public final class RunsAndWallTest {
         x.run(0, 1, 9, 1);
         x.run(0, 2, 9, 1);
         d.due("16 the least of several", x.house(8), 1);
+        BehindWall w = new BehindWall();
+        w.run(0, 0, 9, 1);
+        w.run(0, 1, 5, 1);
+        w.run(0, 2, 7, 1);
+        d.due("16 the first", w.house(8), 0);
+        w.run(0, 3, 10, 1);
+        d.due("16 the last", w.house(8), 3);
         d.due("16 not known, not built", x.house(9), 0);
         d.due("16 not built", x.house(7), 0);
         BehindWall y = new BehindWall();

@@ -128,6 +128,8 @@ public final class SheetsAndRowsTest {
         d.due("37 the first", x.reads(0), 1);
         x.mark(0, 0, NONE);
         d.due("37 of numbers alone", x.reads(0), 1);
+        x.mark(0, 0, 5);
+        d.due("37 at 0", x.reads(0), 0);
         x.sheet(0, 0, 0);
         d.due("37 no places", x.reads(0), NONE);
     }
@@ -384,6 +386,8 @@ public final class SheetsAndRowsTest {
         d.due("46 they count", x.fee(), 9);
         x.back();
         d.due("46 back", x.fee(), 5);
+        d.due("46 later texts are gone", x.textTold(1, 0), BAD);
+        d.due("46 later runs are gone", x.told(4, 0), BAD);
         x.deal(2);
         d.due("45 another image", x.keep(), 6);
         x.deal(1);

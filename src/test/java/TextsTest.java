@@ -65,6 +65,10 @@ public final class TextsTest {
         d.due("31 used up", x.count(6), 0);
         d.due("31 fourteen", x.count(4), 14);
         d.due("31 the last counts", x.why(0), 13);
+        BehindWall y = new BehindWall();
+        d.due("31 a fault at a word", Dues.text(y, "fee cc"), -104);
+        d.due("31 leaves nothing behind", Dues.text(y, "fee c"), 0);
+        d.due("31 read by itself", y.textTold(0, 1), 1);
     }
 
     private void fault(String text, int place) {
@@ -86,6 +90,13 @@ public final class TextsTest {
         fault("hur d", 0);
         fault("  hurts d", 2);
         fault("hurtd", 0);
+        fault("hurta d", 0);
+        fault("hurtz d", 0);
+        fault("xurt d", 0);
+        fault("hurt`d", 4);
+        fault("hurt{d", 4);
+        fault("hurt /1", 5);
+        fault("hurt 1:", 6);
         fault("Hurt d", 0);
         fault("hurt5", 4);
         fault("hurt 12345", 5);
@@ -165,11 +176,17 @@ public final class TextsTest {
         gives("c/(t-2)", 0);
         gives("2*3/4", 1);
         gives("c>t", 1);
+        gives("t>c", 0);
+        gives("c>7", 0);
         gives("c<t", 0);
+        gives("t<c", 1);
+        gives("c<7", 0);
         gives("c=7", 1);
+        gives("c=6", 0);
         gives("c+1=8", 1);
         gives("c&t", 1);
         gives("c&0", 0);
+        gives("0&t", 0);
         gives("0|t", 1);
         gives("0|0", 0);
         gives("1|0&0", 1);
@@ -212,6 +229,9 @@ public final class TextsTest {
         d.due("33 fee", x.why(1), 2);
         d.due("33 none", x.why(2), NONE);
         d.due("33 the last counts", x.fee(), 2);
+        BehindWall y = new BehindWall();
+        Dues.text(y, "fine 1");
+        d.due("33 number 0", y.why(2), 0);
         Dues.text(x, "fee 3+");
         d.due("33 no text, no change", x.why(1), 2);
         for (int b : new int[] {-1, 3, LOW, HIGH}) {
