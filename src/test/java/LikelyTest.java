@@ -87,7 +87,8 @@ public final class LikelyTest {
         d.due("19 the first place", x.where(0, 1, 0), 1);
         sheet(x, 1, 1, NONE, 6, 0, 1);
         d.due("19 of floats", x.where(1, 9, 0), 6);
-        x.where(0, 9, 0);
+        sheet(x, 2, 0, 1, 0, 6, 35);
+        d.due("19 the last place", x.where(2, 9, 0), 35);
         sheet(x, 2, 0, 35, 34, 33, 32);
         d.due("19 the first place, whatever was asked before", x.where(2, 9, 0), 35);
         BehindWall one = new BehindWall();
@@ -278,6 +279,11 @@ public final class LikelyTest {
         for (int n = 1; n <= 30; n += 7) {
             slippedBySteps(1, 5, n);
         }
+        BehindWall one = new BehindWall();
+        one.run(0, 0, 1, 1);
+        one.build();
+        d.due("26 the least of several", one.slipped(5, 0), 0);
+        d.due("26 surely", one.slipped(5, 1), 1000);
         // the best SLIP is 49 and 25 with these
         slippedBySteps(88, 5, 20);
         slippedBySteps(85, 2, 20);
