@@ -1,5 +1,5 @@
 /** Counts and prints the answers that are not as due, and feeds texts. */
-final class Dues {
+class Dues {
     private int wrong = 0;
     private int right = 0;
 
