@@ -46,6 +46,29 @@ public final class LikelySentencesTest {
         s.due("3 of 12", x.chance(0), 250);
         BehindWall one = Sentences.runs(0, 0, 1, 1);
         s.due("of one", one.chance(0), 1000);
+        theLeast();
+    }
+
+    /** By two TESTS that slip, 10 000 become 100, and 1: no ALL is less. */
+    private void theLeast() {
+        BehindWall x = Sentences.runs(0, 0, 10, 9);
+        x.build();
+        x.rule(0, 1);
+        for (int i = 0; i < 2; i++) {
+            x.seed(Sentences.seedFor(100, 0));
+            x.probe(1, 0);
+        }
+        s.due("1 is all there is", x.told(0, 4), 1);
+        Sentences.fill(x, 0, 0, 0);
+        s.due("CHANCE", x.chance(0), 1000);
+        s.due("CHANCE elsewhere", x.chance(1), 0);
+        s.due("RISK", x.risk(0, 9), 9000);
+        s.due("RISK, less deep", x.risk(0, 8), 0);
+        s.due("WHERE", x.where(0, 9, 1), 9000);
+        s.due("WHERE, less deep", x.where(0, 8, 1), 0);
+        s.due("KNOWN", x.house(9), 1);
+        x.mark(0, 0, 1);
+        s.due("WHERE, elsewhere", x.where(0, 9, 1), 0);
     }
 
     private void loss() {
@@ -255,9 +278,20 @@ public final class LikelySentencesTest {
         fitsIs(0, 0, 1, NONE, 36, -1);
         fitsIs(2, 1, 1, NONE, 7, NONE);
         fitsIs(0, 0, 0);
+        // no CELLS, but by their lowest bits they would be
+        fitsIs(0, 0, 0, 64, 70, 128, -64, -58, -62);
+        fitsIs(0, 0, 1, 64, 70, 65, -64, -58, NONE);
         int[] same = new int[24];
         java.util.Arrays.fill(same, 28);
         fitsIs(2, 24, 0, same);
+        BehindWall ten = new BehindWall();
+        for (int i = 0; i < 10; i++) {
+            ten.run(i == 9 ? 2 : 0, i, 1, 1);
+        }
+        Sentences.fill(ten, 0, 0, 10, 11);
+        s.due("the last of ten", ten.fits(0, 0), 9);
+        Sentences.fill(ten, 0, 0, 0, 6, 12);
+        s.due("the first of ten", ten.fits(0, 0), 0);
     }
 
     private void fitsIs(int run, int many, int sort, int... places) {
@@ -282,6 +316,17 @@ public final class LikelySentencesTest {
         x.build();
         x.run(0, 1, 99, 1);
         s.due("another one is likely", x.house(9), 0);
+        // 89 100 of 99 010, then 88 209 of 98 010: just too little, then just enough
+        BehindWall y = Sentences.runs(0, 0, 90, 1);
+        y.build();
+        y.run(0, 0, 10, 1);
+        y.run(0, 1, 1, 1);
+        y.rule(0, 1);
+        for (int known = 0; known < 2; known++) {
+            y.seed(Sentences.seedFor(100, 99));
+            y.probe(1, 0);
+            s.due("by a little", y.house(9), known);
+        }
     }
 
     private void onlyThought() {
@@ -343,6 +388,14 @@ public final class LikelySentencesTest {
                 }
             }
         }
+        BehindWall ten = Whole.full();
+        BehindWall stepped = Whole.full();
+        for (int n = 1; n < 40; n++) {
+            stepped.steps(1);
+            for (int run = 0; run < 10; run++) {
+                s.due("ODDS of RUN " + run + " of ten behind " + n, ten.behind(n, 3 + run), stepped.told(run, 4));
+            }
+        }
         BehindWall x = Sentences.runs(0, 0, 5, 1, 0, 1, 9, 1, 0, 2, 9, 1);
         s.due("the least of several", x.behind(0, 2), 1);
         BehindWall alike = Sentences.runs(0, 0, 9, 1, 0, 0, 9, 1);
@@ -395,9 +448,10 @@ public final class LikelySentencesTest {
     private void slipped() {
         s.term(3, "SLIPPED for n: the SLIP 0 .. 49 with which ODDS of TRUE by ALL (1000 times, cut) "
             + "are greatest behind n STEPS; of several the least.");
-        // n, seed, how many RUNS, the best SLIP, the last one that is as good
+        // n, seed, how many RUNS, the best SLIP, the last one that is as good; in the last two rows some SLIPS above 49
+        // would be better, if they were any
         int[][] rows = {{5, 347, 2, 49, 49}, {2, 288, 2, 25, 37}, {30, 219, 2, 7, 42}, {2, 277, 6, 12, 49},
-            {1, 3, 1, 0, 49}};
+            {1, 3, 1, 0, 49}, {3, 147, 2, 0, 49}, {5, 114, 2, 0, 48}};
         for (int[] r : rows) {
             // RUN 0 was the only one when it was BUILT: it is TRUE
             BehindWall x = dealt(r[1], 1);

@@ -207,7 +207,7 @@ public final class PromisesOfRunsTest {
     }
 
     private void deal() {
-        s.promise(9, "n (1 .. 10) of them, as many as there is room for (no draws for others): how many came.");
+        s.promise(9, "RUNS are drawn, n (1 .. 10) of them, as many as there is room for (no draws for others): how many came.");
         for (int had = 0; had <= 10; had++) {
             for (int n : new int[] {1, 4, 9, 10}) {
                 BehindWall x = new BehindWall();
@@ -381,7 +381,7 @@ public final class PromisesOfRunsTest {
     }
 
     private void stepsSlips() {
-        s.promise(15, "how many SLIPS there were in them");
+        s.promise(15, "how many SLIPS there were in them. BAD.");
         BehindWall x = Whole.rich();
         x.rule(0, 49);
         int all = x.house(4);
@@ -394,6 +394,7 @@ public final class PromisesOfRunsTest {
         s.dueTrue("there were some", all > 40);
         x.rule(0, 0);
         s.due("none without SLIP", x.steps(100), 0);
+        s.refused("none of 0 STEPS", RICH, y -> y.steps(0), BAD);
         s.due("SLIPS", x.house(4), all);
     }
 
@@ -440,7 +441,7 @@ public final class PromisesOfRunsTest {
     }
 
     private void houseKnown() {
-        s.promise(16, "9 whether it is KNOWN (1, 0; nothing BUILT: 0)");
+        s.promise(16, "9 whether it is KNOWN (1, 0; nothing BUILT: 0). BAD.");
         BehindWall x = Sentences.runs(0, 0, 90, 1);
         s.due("nothing BUILT", x.house(9), 0);
         x.build();
@@ -450,5 +451,7 @@ public final class PromisesOfRunsTest {
         x.run(0, 2, 1, 1);
         s.due("no more", x.house(9), 0);
         s.refused("without RUNS", EMPTY, y -> y.house(9), 0);
+        s.refused("nothing BUILT", UNBUILT, y -> y.house(9), 0);
+        s.refused("10", RICH, y -> y.house(10), BAD);
     }
 }

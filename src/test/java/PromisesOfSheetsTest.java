@@ -42,6 +42,7 @@ public final class PromisesOfSheetsTest {
         t.tellFull();
         t.check();
         t.checkLets();
+        t.checkTwoByTwo();
         t.checkFewer();
         t.checkFirstThatIsNot();
         t.checkRefused();
@@ -144,7 +145,8 @@ public final class PromisesOfSheetsTest {
     }
 
     private void pour() {
-        s.promise(36, "(each held within 1 .. 99; NO NUMBER, and beyond the SHEET: they stay): how many are otherwise then.");
+        s.promise(36, "LIKELY of RUNS, by numbers, become the places of a SHEET from 0 on (each held within 1 .. 99; "
+            + "NO NUMBER, and beyond the SHEET: they stay): how many are otherwise then.");
         BehindWall x = new BehindWall();
         for (int i = 0; i < 10; i++) {
             x.run(0, i, 20, 1);
@@ -537,6 +539,16 @@ public final class PromisesOfSheetsTest {
         without.tell(1);
         s.due("without an IMAGE", without.check(1), NO);
         s.due("none wait", without.count(5), 0);
+    }
+
+    private void checkTwoByTwo() {
+        s.promise(44, "two by two: 0");
+        int[] told = stepsTold(2);
+        s.due("in their order", waiting(told, 4).check(2), 0);
+        s.dueTrue("all are not the same", told[0] != told[1] && told[0] != told[2]);
+        s.due("all MINUTES first", waiting(new int[] {told[0], told[2], told[1], told[3]}, 4).check(2), 2);
+        s.due("the RUN first", waiting(new int[] {told[1], told[0], told[3], told[2]}, 4).check(2), 1);
+        s.due("the last STEP first", waiting(new int[] {told[2], told[3], told[0], told[1]}, 4).check(2), 1);
     }
 
     private void checkFewer() {

@@ -303,6 +303,29 @@ public final class SheetSentencesTest {
             s.due("back", x.back(), 6);
             s.same("all is as it was ahead of change " + i, x, kept.get());
         }
+        for (int run = 0; run < 10; run++) {
+            imageKeepsRun(run);
+        }
+    }
+
+    /** Ten RUNS are kept, each by itself, with all that is told of it. */
+    private void imageKeepsRun(int run) {
+        BehindWall x = Whole.full();
+        x.trim(0);
+        x.keep();
+        x.turns(run, (x.told(run, 0) + 1) % 6);
+        x.set(run, 1, 35 - x.told(run, 1));
+        x.set(run, 2, 100 - x.told(run, 2));
+        x.set(run, 3, x.told(run, 3) % 9 + 1);
+        x.probe(3, x.told(run, 1));
+        x.back();
+        BehindWall y = Whole.full();
+        y.trim(0);
+        y.keep();
+        for (int row = 0; row < 6; row++) {
+            s.due("it PASSES as it did", x.passes(run, row), y.passes(run, row));
+        }
+        s.same("RUN " + run + " of ten", x, y);
     }
 
     private void imageKeepsNot() {

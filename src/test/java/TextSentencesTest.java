@@ -15,6 +15,7 @@ public final class TextSentencesTest {
         t.usedUp();
         t.keyAndE();
         t.keys();
+        t.loosestFirst();
         t.or();
         t.and();
         t.test();
@@ -138,6 +139,34 @@ public final class TextSentencesTest {
         }
         fault("Fee 1", 0);
         fault("fEe 1", 0);
+        for (String key : "hurt fee fine".split(" ")) {
+            for (int i = 0; i < key.length(); i++) {
+                fault(key.substring(0, i) + "x" + key.substring(i + 1) + " 1", 0);
+            }
+        }
+    }
+
+    private void loosestFirst() {
+        s.term(4, "E, the loosest first");
+        // each sign beside each that binds more: on both sides of it
+        gives("1|0&0", 1);
+        gives("0&0|1", 1);
+        gives("1&2<1", 0);
+        gives("2<1&1", 0);
+        gives("1<1+1", 1);
+        gives("1+1>1", 1);
+        gives("1=2-1", 1);
+        gives("2+3*4", 14);
+        gives("9-8/2", 5);
+        gives("3*4+2", 14);
+        gives("8/2-9", -5);
+        gives("!0*5", 5);
+        gives("5*!0", 5);
+        gives("!1|1", 1);
+        gives("(1|0)&0", 0);
+        gives("(2+3)*4", 20);
+        gives("1+(1>1)", 1);
+        gives("1&(2<3)", 1);
     }
 
     private void or() {
@@ -399,6 +428,15 @@ public final class TextSentencesTest {
         fault("fee (1+2))+))", 9);
         fault("fee 1 @ # $", 6);
         fault("fee 12345 @", 4);
+        // a TEXT is read by itself, whatever was read ahead of it
+        BehindWall x = new BehindWall();
+        for (String before : new String[] {"xx", "fee cc", "fee 12345", "fee 1 2", "fee ((1", "fee !", "fee 1<2<3", "@"}) {
+            s.dueTrue("a FAULT", Dues.text(x, before) <= -100);
+            int had = x.count(4);
+            s.due("a TEXT behind [" + before + "]", Dues.text(x, "fee 7"), had);
+            s.due("it has one NUMBER", x.textTold(had, 1), 1);
+            s.due("what it gives", x.fee(), 7);
+        }
     }
 
     private void wordsThatNeedABlank() {

@@ -328,6 +328,17 @@ public final class WallSentencesTest {
         s.due("KIND " + kind + " DEEP " + deep + " at " + cell, x.tells(0, sort, cell), due);
     }
 
+    /** One of a KIND, from each CELL on, TELLS yes of a sort just where it PASSES, if it does at all. */
+    private void tellsWhereItPasses(int kind, int deep, int sort, boolean atAll, boolean inEvenRows) {
+        for (int from = 0; from < 36; from++) {
+            BehindWall x = Sentences.runs(kind, from, 1, deep);
+            for (int c = 0; c < 36; c++) {
+                boolean yes = atAll && (x.passes(0, c / 6) >> c % 6 & 1) == 1 && (!inEvenRows || c / 6 % 2 == 0);
+                s.due("KIND " + kind + " DEEP " + deep + " from " + from + " at " + c, x.tells(0, sort, c), yes ? 1 : 0);
+            }
+        }
+    }
+
     private void knock() {
         s.term(1, "0 KNOCK: RUN: no. PIPE: if it PASSES it, and DEEP is 3 or less. STUD: if it PASSES it.");
         tells(0, 1, 0, 14, 0);
@@ -342,6 +353,10 @@ public final class WallSentencesTest {
         tells(5, 9, 0, 5, 1);
         tells(5, 9, 0, 11, 1);
         tells(5, 1, 0, 13, 0);
+        tellsWhereItPasses(0, 1, 0, false, false);
+        tellsWhereItPasses(2, 3, 0, true, false);
+        tellsWhereItPasses(2, 4, 0, false, false);
+        tellsWhereItPasses(5, 9, 0, true, false);
     }
 
     private void beep() {
@@ -359,6 +374,10 @@ public final class WallSentencesTest {
             tells(5, 9, 1, 6 * row + 5, 1 - row % 2);
             tells(5, 1, 1, 6 * row + 3, 0);
         }
+        tellsWhereItPasses(0, 9, 1, true, false);
+        tellsWhereItPasses(2, 6, 1, true, false);
+        tellsWhereItPasses(2, 7, 1, false, false);
+        tellsWhereItPasses(5, 9, 1, true, true);
     }
 
     private void feel() {
@@ -368,15 +387,14 @@ public final class WallSentencesTest {
         tells(2, 9, 2, 17, 1);
         tells(2, 9, 2, 13, 0);
         tells(2, 9, 2, 18, 0);
+        tellsWhereItPasses(0, 1, 2, false, false);
+        tellsWhereItPasses(2, 9, 2, true, false);
     }
 
     private void hole() {
         s.term(1, "3 HOLE: RUN: if it PASSES it.");
         for (int kind = 0; kind < 6; kind++) {
-            BehindWall x = Sentences.runs(kind, 14, 1, 9);
-            for (int c = 0; c < 36; c++) {
-                s.due("KIND " + kind + " at " + c, x.tells(0, 3, c), x.passes(0, c / 6) >> c % 6 & 1);
-            }
+            tellsWhereItPasses(kind, 9, 3, true, false);
         }
     }
 
@@ -451,6 +469,17 @@ public final class WallSentencesTest {
         tells(4, 9, 2, 34, 0);
         tells(3, 9, 1, 21, 1);
         tells(3, 9, 1, 20, 0);
+        for (int kind : new int[] {1, 3}) {
+            tellsWhereItPasses(kind, 1, 0, false, false);
+            tellsWhereItPasses(kind, 9, 1, true, false);
+            tellsWhereItPasses(kind, 1, 2, false, false);
+        }
+        for (int deep = 1; deep < 10; deep++) {
+            tellsWhereItPasses(4, deep, 0, deep < 4, false);
+            tellsWhereItPasses(4, deep, 1, deep < 7, false);
+        }
+        tellsWhereItPasses(4, 9, 2, true, false);
+        tellsWhereItPasses(5, 1, 2, false, false);
     }
 
     // ---- part 2
@@ -701,6 +730,11 @@ public final class WallSentencesTest {
             sorts |= 1 << sort;
         }
         s.due("each sort came", sorts, 15);
+        BehindWall x = Whole.rich();
+        x.rule(0, 0);
+        int tests = x.house(3);
+        s.due("no SLIPS without SLIP", x.steps(10), 0);
+        s.due("but TESTS", x.house(3), tests + 10);
     }
 
     private void stepCounts() {
