@@ -124,13 +124,15 @@ final class Whole {
     }
 
     private static void lookAtWall(BehindWall x, StringBuilder b) {
+        int runs = x.count(0);
+        int texts = x.count(4);
         for (int what : new int[] {0, 1, 2, 3, 4, 7}) {
             b.append(x.count(what)).append(' ');
         }
         for (int what = 0; what < 10; what++) {
             b.append(x.house(what)).append(' ');
         }
-        for (int run = 0; run < x.count(0); run++) {
+        for (int run = 0; run < runs; run++) {
             for (int what = 0; what < 6; what++) {
                 b.append(x.told(run, what)).append(' ');
             }
@@ -139,12 +141,12 @@ final class Whole {
         for (int key = 0; key < 3; key++) {
             b.append(x.why(key)).append(' ');
         }
-        for (int text = 0; text < x.count(4); text++) {
+        for (int text = 0; text < texts; text++) {
             b.append(x.textTold(text, 0)).append(' ').append(x.textTold(text, 1)).append(' ');
         }
         b.append(x.fee()).append(' ').append(x.when());
         // which RUN is TRUE shows by what drilling costs
-        for (int run = 0; run < x.count(0); run++) {
+        for (int run = 0; run < runs; run++) {
             b.append(' ').append(x.drill(x.told(run, 1), 9));
         }
     }
