@@ -811,8 +811,10 @@ public final class BehindWall {
             System.arraycopy(other.odds, 0, odds, 0, MOST_RUNS);
             System.arraycopy(other.ways, 0, ways, 0, MOST_RUNS);
             System.arraycopy(other.tally, 0, tally, 0, TALLIES);
-            System.arraycopy(other.laws, 0, laws, 0, MOST_TEXTS);
             System.arraycopy(other.counting, 0, counting, 0, KEYS);
+            for (int i = 0; i < MOST_TEXTS; i++) {
+                laws[i] = other.laws[i];
+            }
             runs = other.runs;
             truth = other.truth;
             slip = other.slip;
